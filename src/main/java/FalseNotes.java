@@ -1570,6 +1570,9 @@ public final class FalseNotes {
         static final int NO_ROOM = 6;
         static final int TOO_DEEP = 7;
 
+        /** Letters count from 1, so that no two WORDS of up to 8 of them make the same long. */
+        static final int AHEAD_OF_A = 'a' - 1;
+        static final int LETTER_BASE = 27;
         static final int MOST_LETTERS = 8;
         static final int MOST_DIGITS = 4;
 
@@ -1632,7 +1635,7 @@ public final class FalseNotes {
             letters = 0;
             while (at < length && text[at] >= 'a' && text[at] <= 'z') {
                 if (letters < MOST_LETTERS) {
-                    word = withLetter(word, text[at]);
+                    word = word * LETTER_BASE + text[at] - AHEAD_OF_A;
                 }
                 letters++;
                 at++;
@@ -1654,18 +1657,13 @@ public final class FalseNotes {
             }
         }
 
-        /** Letters count from 1, so that no two words of up to 8 of them make the same long. */
-        static long withLetter(long ahead, int letter) {
-            return ahead << 5 | letter - 'a' + 1;
-        }
-
         static int keywordOf(long sought) {
             int index = 0;
             long gathered = 0;
             for (int i = 0; i < KEYWORDS.length(); i++) {
                 char c = KEYWORDS.charAt(i);
                 if (c != ' ') {
-                    gathered = withLetter(gathered, c);
+                    gathered = gathered * LETTER_BASE + c - AHEAD_OF_A;
                 } else if (gathered == sought) {
                     return index;
                 } else {
@@ -1713,19 +1711,22 @@ public final class FalseNotes {
             return standsNumber(least, most);
         }
 
-        boolean takeName() {
-            advance();
+        boolean standsName() {
             return kind == WORD && letters <= MOST_LETTERS && keyword == NONE || refuse(CANT_STAND);
         }
 
-        /** The SINGER whose NAME comes next, or NONE with a FAULT. */
-        int takeSinger(Choir choir) {
-            if (!takeName()) {
+        /** The SINGER whose NAME comes next, or NONE with a FAULT: that one must not come, if it is one. */
+        int takeSinger(Choir choir, int unlike) {
+            advance();
+            if (!standsName()) {
                 return NONE;
             }
             int s = choir.find(word);
             if (s == NONE) {
                 refuse(WRONG_NAME);
+            } else if (s == unlike) {
+                refuse(TWICE);
+                s = NONE;
             }
             return s;
         }
@@ -1765,7 +1766,8 @@ public final class FalseNotes {
             if (choir.singers >= Choir.MOST_SINGERS) {
                 return tokens.refuse(Tokens.NO_ROOM);
             }
-            if (!tokens.takeName()) {
+            tokens.advance();
+            if (!tokens.standsName()) {
                 return false;
             }
             if (choir.find(tokens.word) != NONE) {
@@ -1841,11 +1843,11 @@ public final class FalseNotes {
         }
 
         boolean readOwes(Choir choir) {
-            int debtor = tokens.takeSinger(choir);
+            int debtor = tokens.takeSinger(choir, NONE);
             if (debtor == NONE) {
                 return false;
             }
-            int creditor = takeOther(choir, debtor);
+            int creditor = tokens.takeSinger(choir, debtor);
             if (creditor == NONE || !tokens.takeNumber(1, Choir.MOST_LENT)) {
                 return false;
             }
@@ -1856,25 +1858,16 @@ public final class FalseNotes {
         }
 
         boolean readHeir(Choir choir) {
-            int s = tokens.takeSinger(choir);
+            int s = tokens.takeSinger(choir, NONE);
             if (s == NONE) {
                 return false;
             }
-            int heir = takeOther(choir, s);
+            int heir = tokens.takeSinger(choir, s);
             if (heir == NONE) {
                 return false;
             }
             choir.heirs[s] = heir;
             return tokens.takeSign(';');
-        }
-
-        int takeOther(Choir choir, int one) {
-            int other = tokens.takeSinger(choir);
-            if (other != NONE && other == one) {
-                tokens.refuse(Tokens.TWICE);
-                return NONE;
-            }
-            return other;
         }
 
         boolean readHums(Choir choir) {
@@ -2048,11 +2041,11 @@ public final class FalseNotes {
                 int part = tail.charAt(i);
                 switch (part) {
                     case 'a':
-                        years.firsts[spot] = tokens.takeSinger(choir);
+                        years.firsts[spot] = tokens.takeSinger(choir, NONE);
                         fine = years.firsts[spot] != NONE;
                         break;
                     case 'b':
-                        years.seconds[spot] = tokens.takeSinger(choir);
+                        years.seconds[spot] = tokens.takeSinger(choir, NONE);
                         fine = years.seconds[spot] != NONE;
                         break;
                     case 't':
