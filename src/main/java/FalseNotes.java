@@ -23,6 +23,10 @@ public final class FalseNotes {
     private static final int LOWEST_HEARD = -12;
     private static final int HIGHEST_HEARD = 2000;
 
+    private static final int BY_OWED = 0;
+    private static final int BY_OWING = 1;
+    private static final int BY_ROOM = 2;
+
     private final Tray[] trays = new Tray[TRAYS];
     private final byte[] tape = new byte[MOST_BYTES];
     private final ChoirReader choirReader = new ChoirReader();
@@ -382,29 +386,11 @@ public final class FalseNotes {
     }
 
     public int richest() {
-        int best = NONE;
-        int most = 0;
-        for (int s = 0; s < choir.singers; s++) {
-            int much = choir.isOwedInAll(s);
-            if (much > most) {
-                most = much;
-                best = s;
-            }
-        }
-        return answerOr(best, NO_SUCH);
+        return firstWithMost(BY_OWED);
     }
 
     public int deepest() {
-        int best = NONE;
-        int most = 0;
-        for (int s = 0; s < choir.singers; s++) {
-            int much = choir.owesInAll(s);
-            if (much > most) {
-                most = much;
-                best = s;
-            }
-        }
-        return answerOr(best, NO_SUCH);
+        return firstWithMost(BY_OWING);
     }
 
     public boolean bass() {
@@ -488,16 +474,7 @@ public final class FalseNotes {
     }
 
     public int roomiest() {
-        int best = NONE;
-        int most = 0;
-        for (int s = 0; s < choir.singers; s++) {
-            int many = choir.lives(s) ? choir.freeNotes(s) : 0;
-            if (many > most) {
-                most = many;
-                best = s;
-            }
-        }
-        return answerOr(best, NO_SUCH);
+        return firstWithMost(BY_ROOM);
     }
 
     public int falsest(int singer) {
@@ -707,6 +684,28 @@ public final class FalseNotes {
     private boolean deny(int why) {
         status = why;
         return false;
+    }
+
+    private int firstWithMost(int measure) {
+        int best = NONE;
+        int most = 0;
+        for (int s = 0; s < choir.singers; s++) {
+            int much = measured(s, measure);
+            if (much > most) {
+                most = much;
+                best = s;
+            }
+        }
+        return answerOr(best, NO_SUCH);
+    }
+
+    private int measured(int singer, int measure) {
+        switch (measure) {
+            case BY_OWED: return choir.isOwedInAll(singer);
+            case BY_OWING: return choir.owesInAll(singer);
+            // a DEAD one's LINE is FREE, but it is no SINGER
+            default: return choir.lives(singer) ? choir.freeNotes(singer) : 0;
+        }
     }
 
     private static boolean isTray(int tray) {
