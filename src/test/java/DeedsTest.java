@@ -102,6 +102,9 @@ public final class DeedsTest {
         Check.refused("above 9,999", x, x.lend(0, 1, 10), 7);
         Check.given("9,999", x, x.lend(0, 1, 9), 18);
         Check.refused("earn above 9,999", x, x.earn(1, 1), 7);
+        x.lend(1, 0, 5);
+        Check.refused("earn above 9,999 by one", x, x.earn(1, 6), 7);
+        Check.given("earn to 9,999", x, x.earn(1, 5), 9999);
         FalseNotes y = Check.valley("singer a purse 99;singer b purse 20;owes b a 9;");
         for (int i = 0; i < 9; i++) {
             y.earn(0, 999);
