@@ -2,8 +2,18 @@
 final class Check {
     private static int wrong = 0;
     private static int asked = 0;
+    private static String about = "";
 
     private Check() {
+    }
+
+    /** What stands ahead of each line that is printed from now on. */
+    static void about(String words) {
+        about = words;
+    }
+
+    static int asked() {
+        return asked;
     }
 
     static void due(String what, long got, long want) {
@@ -11,13 +21,26 @@ final class Check {
         if (got != want) {
             wrong++;
             if (wrong <= 50) {
-                System.out.println(what + " answered " + got + ", due is " + want);
+                System.out.println(about + what + " answered " + got + ", due is " + want);
             }
         }
     }
 
     static void due(String what, boolean got, boolean want) {
         due(what, got ? 1 : 0, want ? 1 : 0);
+    }
+
+    /** Two rows of answers, told as far as where they part. */
+    static void due(String what, String got, String want) {
+        asked++;
+        if (!got.equals(want)) {
+            wrong++;
+            int i = 0;
+            while (i < got.length() && i < want.length() && got.charAt(i) == want.charAt(i)) {
+                i++;
+            }
+            System.out.println(about + what + " parts behind \"" + got.substring(Math.max(0, i - 60), i) + "\"");
+        }
     }
 
     /** A refused call: NONE, and the STATUS that tells why. */
