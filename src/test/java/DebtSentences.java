@@ -7,7 +7,7 @@ final class DebtSentences {
 
     /** Fills a PURSE up to so many coins. */
     static void enrich(FalseNotes x, int singer, int coins) {
-        for (int left = coins - x.singer(singer, 0); left > 0; left = coins - x.singer(singer, 0)) {
+        for (int left = coins - x.singer(singer, 0); left > 0; left -= 999) {
             x.earn(singer, Math.min(999, left));
         }
         Check.due("PURSE of " + singer, x.singer(singer, 0), coins);
@@ -239,6 +239,24 @@ final class DebtSentences {
         w.live(0);
         Check.given("and so on", w, w.held(0, 0, 0), 3);
         Check.due("none was MISSED", w.lived(0), 0);
+    }
+
+    /** 8 WAIT, six for the NOTE of a, one for that of b, the last for that of c; all have 100 coins. */
+    private static FalseNotes theLastWaitsForC() {
+        FalseNotes x = Check.valley(TextSentences.singers(8).replace("purse 0", "purse 100")
+                + "owes b a 1;owes c a 2;owes d a 3;owes e a 4;owes f a 5;owes g a 6;owes h a 7;owes a b 8;owes d b 9;owes a c 10;owes e c 11;");
+        Check.due("8 WAIT", x.told(4), 8);
+        return x;
+    }
+
+    @Says(at = "Terms 2", words = "the first that WAITS for such a LINE gets the first FREE one,")
+    static void theLastOf8GetsANoteToo() {
+        FalseNotes x = theLastWaitsForC();
+        x.pay(0, 2, 10);
+        Check.given("the eighth", x, x.held(2, 0, 0), 4);
+        Check.given("as much", x, x.held(2, 0, 1), 11);
+        Check.due("7 WAIT", x.told(4), 7);
+        Check.given("the seventh as it was", x, x.waiting(6, 1), 1);
     }
 
     @Says(at = "Terms 2", words = "SUNG: a NOTE and the DEBT that stands there;")
@@ -495,6 +513,13 @@ final class DebtSentences {
         Check.due("NOTES are FREE", x.held(0, 0, 0), -1);
         Check.given("the HEIR has the NOTE of b", x, x.held(1, 0, 0), 4);
         Check.due("all that is owed", x.told(5), 8 + 9 + 10);
+        FalseNotes y = theLastWaitsForC();
+        y.die(2);
+        Check.due("what WAITED first, of the DEAD one, and last, for it, is gone", y.told(4), 6);
+        Check.given("d is first", y, y.waiting(0, 0), 3);
+        Check.given("what WAITS for b is last", y, y.waiting(5, 1), 1);
+        Check.due("c is OWED nothing", y.singer(2, 6), 0);
+        Check.due("all but 2, 10 and 11", y.told(5), 1 + 3 + 4 + 5 + 6 + 7 + 8 + 9);
     }
 
     @Says(at = "Terms 2", words = "it is DEAD, has no coins, no COLD.")

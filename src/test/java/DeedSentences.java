@@ -247,6 +247,8 @@ final class DeedSentences {
         Check.due("all", x.told(5), 12);
         Check.given("none more", x, x.chords(), 0);
         Check.due("nothing was PAID", x.told(7), 0);
+        x.die(1);
+        Check.given("of a DEAD one nothing", x, x.chords(), 0);
         FalseNotes y = new FalseNotes();
         Check.given("of no SINGERS", y, y.chords(), 0);
         FalseNotes z = Check.valley("singer a purse 0 line 1;singer b purse 0;singer c purse 0;owes b a 5;owes c a 3;owes a b 5;owes a c 2;");

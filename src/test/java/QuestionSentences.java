@@ -77,6 +77,8 @@ final class QuestionSentences {
         Check.given("three are", x, x.round(), 3);
         x = plain(3, "owes a b 1;owes b c 1;owes a c 1;");
         Check.refused("the last owes nobody", x, x.round(), 6);
+        x = plain(5, "owes a b 1;owes b a 1;owes b c 1;owes c b 1;owes c d 1;owes d c 1;");
+        Check.refused("to and fro is none", x, x.round(), 6);
         x = Check.valley("singer a purse 1 line 1;singer b purse 1;singer c purse 1;owes b a 1;owes a b 1;owes b c 1;owes c a 1;");
         Check.refused("what WAITS is no NOTE", x, x.round(), 6);
         x.chord(0, 1);
@@ -182,7 +184,7 @@ final class QuestionSentences {
         Check.given("not a BASS", x, x.heard(1, 0), -7 - 12);
         fill(x, 0, -1, -9, 500);
         Check.given("true", x, x.heard(0, 0), 0);
-        fill(x, 0, 9, -9, 500);
+        fill(x, 0, 9, -9, 2001);
         Check.given("10", x, x.heard(0, 0), 10);
     }
 
@@ -357,12 +359,17 @@ final class QuestionSentences {
         Check.given("4", x, x.clear(), 4);
         Check.due("all is gone", x.told(5), 0);
         Check.refused("there is none any more", x, x.clear(), 7);
+        x = plain(8, "owes a h 3;owes h b 3;owes b g 3;owes g c 3;owes c f 3;owes f d 2;owes d e 3;owes e a 3;");
+        Check.given("of eight", x, x.clear(), 2);
+        Check.due("seven of 1 are left", x.told(5), 7);
     }
 
     @Says(at = "Promise 43", words = "ASK: how many.")
     static void askOfNobody() {
         FalseNotes x = new FalseNotes();
         Check.given("no SINGERS", x, x.ask(), 0);
+        x = plain(1, "");
+        Check.given("one SINGER", x, x.ask(), 0);
         x = plain(8, "owes a b 1;owes c d 1;owes e f 1;owes g h 1;");
         Check.given("four", x, x.ask(), 4);
         x = plain(4, "owes a b 1;owes a c 1;owes a d 1;owes b c 1;owes b d 1;owes c d 1;");
@@ -389,6 +396,10 @@ final class QuestionSentences {
         Check.given("eight", x, x.chain(), 8);
         x = plain(3, "owes a b 1;owes b a 1;");
         Check.given("none twice", x, x.chain(), 2);
+        x = plain(3, "owes a b 1;owes b a 1;owes b c 1;");
+        Check.given("the right way round", x, x.chain(), 3);
+        x = plain(8, "owes a b 1;owes c d 1;owes a c 1;owes e f 1;owes g f 1;");
+        Check.given("not of parts", x, x.chain(), 3);
         x = plain(5, "owes a b 1;owes b c 1;owes c a 1;owes d a 1;");
         Check.given("past a ROUND", x, x.chain(), 4);
         x = oneWaits("owes b c 1;");
@@ -453,6 +464,9 @@ final class QuestionSentences {
         Check.given("one FREE NOTE", x, x.roomiest(), 0);
         x = Check.valley("singer a purse 0 line 1;singer b purse 0 line 1;owes a b 1;owes b a 1;");
         Check.refused("none is FREE", x, x.roomiest(), 6);
+        x = Check.valley("singer a purse 0;singer b purse 0 line 1;singer c purse 0 line 1;owes c b 1;owes b c 1;");
+        x.die(0);
+        Check.refused("none is FREE but a DEAD one's", x, x.roomiest(), 6);
         x = new FalseNotes();
         Check.refused("no SINGERS", x, x.roomiest(), 6);
     }
@@ -518,11 +532,13 @@ final class QuestionSentences {
         Check.refused("-13, not alike", x, x.transposed(0, 0), 5);
         fill(x, 0, 11, 3, 8);
         Check.refused("the last is not alike", x, x.transposed(0, 0), 6);
+        fill(x, 0, 11, 4, 7);
+        Check.refused("the second is not alike", x, x.transposed(0, 0), 6);
         fill(x, 0, 12, 3, 7);
         Check.refused("the first is not alike", x, x.transposed(0, 0), 6);
         fill(x, 0, 10, 2, 6);
         Check.given("-1 is no NONE", x, x.transposed(0, 0), -1);
-        fill(x, 0, 10, 2, 6, 99);
+        fill(x, 0, 10, 2, 6, 2001);
         Check.given("what is behind the LINE does not count", x, x.transposed(0, 0), -1);
     }
 
@@ -547,7 +563,7 @@ final class QuestionSentences {
         Check.refused("all are off", x, x.forged(0, 0), 6);
         fill(x, 0, 11, 2000, 7);
         Check.given("one is", x, x.forged(0, 0), 1);
-        fill(x, 0, 11, 3, 8, 99);
+        fill(x, 0, 11, 3, 8, -13);
         Check.given("what is behind the LINE does not count", x, x.forged(0, 0), 2);
     }
 

@@ -318,7 +318,7 @@ public final class QuestionsTest {
             x.hum(hums);
             for (int n = 0; n <= 999; n += 111) {
                 int d = 0;
-                while (x.grows(d, 4) < n) {
+                while (d < 999 && x.grows(d, 4) < n) {
                     d++;
                 }
                 Check.given("the least", x, x.before(n, 4), d);

@@ -168,6 +168,12 @@ final class TextSentences {
             Check.choirFault("singer a purse 1 " + voice + " " + voice + ";", 5, 22);
             taken("singer a purse 1 " + voice + ";singer b purse 1 " + voice + ";", 2);
         }
+        FalseNotes x = Check.valley("singer a purse 1 bass cold deaf;singer b purse 1;singer c purse 1 bass cold deaf;");
+        Check.due("COLD a and c", x.told(8), 5);
+        for (int s = 0; s < 3; s++) {
+            Check.due("BASS " + s, x.singer(s, 2), s == 1 ? 0 : 1);
+            Check.due("DEAF " + s, x.singer(s, 3), s == 1 ? 0 : 1);
+        }
     }
 
     @Says(at = "Terms 1", words = "NAME: a WORD of 1 to 8 letters")
@@ -175,6 +181,8 @@ final class TextSentences {
         taken("singer z purse 1;", 1);
         taken("singer abcdefgh purse 1;singer abcdefgi purse 1;", 2);
         taken("singer zzzzzzzz purse 1;singer zzzzzzz purse 1;", 2);
+        taken("singer a purse 1;singer aa purse 1;singer b purse 1;singer bb purse 1;singer ba purse 1;singer ab purse 1;"
+                + "singer z purse 1;singer zz purse 1;", 8);
         Check.choirFault("singer abcdefghi purse 1;", 2, 7);
         Check.choirFault("singer purse 1;", 2, 7);
     }
@@ -335,6 +343,16 @@ final class TextSentences {
         Check.feed(x, "hums 1;hums");
         Check.refused("cut off behind a NUMBER", x, x.choir(6), 9);
         Check.due("the length that was asked for", x.fault(1), 6);
+        Check.feed(x, "hums 12;");
+        Check.refused("cut off within a NUMBER", x, x.choir(6), 9);
+        Check.due("the length again", x.fault(1), 6);
+        Check.feed(x, " ".repeat(894) + "hums 1");
+        Check.refused("at the end of 900", x, x.choir(900), 9);
+        Check.due("2", x.fault(0), 2);
+        Check.due("900", x.fault(1), 900);
+        Check.feed(x, " ".repeat(896) + "hums");
+        Check.refused("a WORD at the end of 900", x, x.choir(900), 9);
+        Check.due("900 again", x.fault(1), 900);
     }
 
     @Says(at = "Terms 1", words = "a WORD of 9 letters and more where a NAME must stand).")
@@ -435,6 +453,101 @@ final class TextSentences {
         Check.due("no SINGERS", x.told(0), 0);
     }
 
+    @Says(at = "Terms 1", words = "A CHOIR that is taken is there in place of that ahead;")
+    static void aThirdChoirHasNothingOfTheFirst() {
+        String first = "singer a purse 90 cold bass deaf line 1;singer b purse 90 cold bass deaf line 1;singer c purse 90 line 1;"
+                + "owes a b 5;owes c b 6;owes b a 7;owes c a 8;heir a b;heir b a;hums 9;";
+        // the first is done to and replaced, or it has a FAULT at its end
+        for (int which = 0; which < 2; which++) {
+            FalseNotes x = new FalseNotes();
+            Check.choir(x, which == 0 ? first : first + "#");
+            x.sunday();
+            x.pay(0, 1, 3);
+            x.die(2);
+            Check.choir(x, which == 0 ? "singer z purse 1;" : first + "hums");
+            Check.given("the third", x, Check.choir(x, "singer a purse 3;singer d purse 4;"), 2);
+            int[] told = {2, 0, 0, 0, 0, 0, 7, 0, 0, 0};
+            for (int what = 0; what < 10; what++) {
+                Check.given("told " + what, x, x.told(what), told[what]);
+            }
+            int[][] singer = {{3, 3, 0, 0, -1, 0, 0}, {4, 3, 0, 0, -1, 0, 0}};
+            for (int s = 0; s < 2; s++) {
+                for (int what = 0; what < 7; what++) {
+                    Check.due("singer " + s + " " + what, x.singer(s, what), singer[s][what]);
+                }
+                for (int note = 0; note < 3; note++) {
+                    Check.refused("FREE " + s + " " + note, x, x.held(s, note, 0), 6);
+                    Check.due("line " + s + " " + note, x.line(s, note), 12 + 2 * note);
+                    Check.due("sung " + s + " " + note, x.sung(s, note), 12 + 2 * note);
+                }
+            }
+        }
+    }
+
+    @Says(at = "Terms 1", words = "a NAME that is no such one told ahead.")
+    static void fault3NamesOfAnOlderChoir() {
+        FalseNotes x = new FalseNotes();
+        Check.choir(x, TWO);
+        Check.choir(x, "singer x purse 1;");
+        Check.refused("b was of the first", x, Check.choir(x, "singer a purse 1;heir a b;"), 9);
+        Check.due("3", x.fault(0), 3);
+        Check.due("at b", x.fault(1), 24);
+        Check.choirFault(singers(8) + "heir a i;", 3, singers(8).length() + 7);
+    }
+
+    /** Each of eight owes each other, which fills 48 NOTES and makes 8 WAIT: no CHOIR has more DEBTS. */
+    static String fullest() {
+        StringBuilder text = new StringBuilder(singers(8).replace("line 1", "line 1 1 1 1 1 1"));
+        for (char a = 'a'; a <= 'h'; a++) {
+            for (char b = 'a'; b <= 'h'; b++) {
+                text.append(a == b ? "" : "owes " + a + " " + b + " 1;");
+            }
+        }
+        return text.toString();
+    }
+
+    @Says(at = "Terms 1", words = "SINGERS, at most 8: a PURSE (0 to 999), a BASS or not, with a COLD or not, DEAF or not, a LINE of 1 to 6 NOTES")
+    static void theFullestChoir() {
+        FalseNotes x = Check.valley(fullest());
+        int[] told = {8, 0, 0, 48, 8, 56, 0, 0, 0, 0};
+        for (int what = 0; what < 10; what++) {
+            Check.given("told " + what, x, x.told(what), told[what]);
+        }
+        for (int s = 0; s < 8; s++) {
+            Check.given("owes", x, x.singer(s, 5), 7);
+            Check.given("is OWED", x, x.singer(s, 6), 7);
+            Check.given("BALANCE", x, x.balance(s), 0);
+            Check.given("no FREE NOTE", x, x.free(s), 0);
+            Check.given("one WAITS", x, x.queue(s), 1);
+            Check.given("falsest", x, x.falsest(s), 0);
+            Check.refused("nobody's", x, x.whose(s, 2), 6);
+            // h came last to each LINE, so it holds no NOTE
+            Check.given("behind", x, x.behind(s), s == 7 ? 0 : 255 - (1 << s));
+        }
+        Check.given("six NOTES", x, x.sung(7, 5), 2);
+        x.tray(0, 0, 6);
+        Check.given("copySung", x, x.copySung(7, 0), 6);
+        Check.given("heard", x, x.heard(7, 0), 6);
+        Check.given("transposed", x, x.transposed(7, 0), 0);
+        Check.refused("forged", x, x.forged(7, 0), 6);
+        Check.given("richest", x, x.richest(), 0);
+        Check.given("deepest", x, x.deepest(), 0);
+        Check.refused("roomiest", x, x.roomiest(), 6);
+        Check.given("payings", x, x.payings(), 0);
+        Check.given("round", x, x.round(), 3);
+        Check.given("ask", x, x.ask(), 7);
+        Check.given("askSet", x, x.askSet(), 127);
+        Check.given("chain", x, x.chain(), 8);
+        Check.given("shorts", x, x.shorts(), 0);
+        Check.given("bass", x, x.bass());
+        Check.given("owedIn", x, x.owedIn(999), 56);
+        x.hum(1);
+        Check.given("sunday", x, x.sunday(), 48 * 2 + 8);
+        Check.given("the last dies", x, x.die(7), 7);
+        Check.given("42 of 7 are left", x, x.told(3) + x.told(4), 42);
+        Check.given("chords", x, x.chords() > 0 ? 1 : 0, 1);
+    }
+
     @Says(at = "Promise 9", words = "Twenty bytes come behind those on the tape, the highest of each int first: how many it has;")
     static void feedTheHighestFirst() {
         FalseNotes x = new FalseNotes();
@@ -507,6 +620,11 @@ final class TextSentences {
         Check.given("11 bytes", x, x.years(11), 2);
         Check.refused("nothing is left", x, x.years(1), 1);
         Check.given("no bytes", x, x.years(0), 0);
+        for (int steps = 5; steps > 0; steps--) {
+            Check.given("each time anew", x, Check.years(x, "any;".repeat(steps)), steps);
+        }
+        Check.refused("a FAULT behind three", x, Check.years(x, "any;any;any;#"), 9);
+        Check.given("one behind a FAULT", x, Check.years(x, "any;"), 1);
     }
 
     @Says(at = "Promise 11", words = "(1: above 300, too;")

@@ -267,6 +267,9 @@ final class YearsSentences {
                 + "when debt a to b>0;sunday;end;when debt c to a<7;sunday;end;");
         x.live(0);
         Check.due("at a NOTE, WAITING, none", x.lived(3), 3);
+        Check.years(x, "when debt a to a=0;sunday;end;when debt a to a>0;sunday;end;when debt a to a<0;sunday;end;");
+        x.live(0);
+        Check.due("one and itself: 0", x.lived(3), 1);
         x = three();
         DebtSentences.enrich(x, 0, 9999);
         Check.years(x, "when purse a=9999;sunday;end;when purse a<9999;sunday;end;when purse a>9998;sunday;end;");
@@ -389,15 +392,22 @@ final class YearsSentences {
         y.earn(2, 9);
         y.well(2);
         y.name(2, -1);
-        Check.years(y, "");
+        Check.years(y, "when debt d to c<9;loop 5;sunday;end;end;pay d to d 7;lend d to d 7;chord d d;when still c;die a;end;");
         y.undo();
         Check.due("as it was", StatusSentences.valley(y), StatusSentences.valley(muchHappened()));
+        Check.given("its NAMES", x, Check.years(x, "cold a;cold d;"), 2);
+        Check.yearsFault(x, "cold z;", 3, 5);
+        FalseNotes z = three();
+        z.mark();
+        Check.years(z, "any;");
+        z.undo();
+        Check.refused("no YEARS, too", z, z.live(0), 6);
     }
 
     private static FalseNotes muchHappened() {
-        FalseNotes x = Check.valley("singer a purse 9 bass line 3;singer b purse 9 deaf;singer c purse 9;singer d purse 9;"
-                + "owes b a 4;owes c a 5;owes d a 8;owes a b 6;heir a b;heir c a;hums 10;");
-        Check.years(x, "sunday;any;any;");
+        FalseNotes x = Check.valley("singer a purse 9 bass line 3;singer b purse 9 deaf;singer c purse 9 line 4;singer d purse 9;"
+                + "owes b a 4;owes c a 5;owes d a 8;owes a c 2;owes d c 6;owes a b 6;heir a b;heir c a;hums 10;");
+        Check.years(x, "when purse d>3;lend d to a 1;loop 3;pay a to c 1;any;end;end;when debt d to c=6;any;lend a to d 2;end;sunday;");
         x.sunday();
         x.pay(0, 1, 2);
         x.cold(2);
@@ -477,6 +487,10 @@ final class YearsSentences {
     @Says(at = "Promise 60", words = "what 0: MISSED, 1: how much was lent, 2: PAID, 3: SUNDAYS, 4: 1 if a STEP was left to be done, else 0")
     static void livedTells() {
         livedIs(lived("lend a to b 9;lend a to b 2;pay b to a 4;cold b;sunday;sunday;cold b;", 0), 1, 11, 11, 2, 0);
+        FalseNotes x = lived("lend a to b 9;pay b to a 4;sunday;", 0);
+        x.live(0);
+        livedIs(x, 0, 9, 4, 1, 0);
+        Check.due("8 were PAID in all", x.told(7), 8);
         livedIs(lived("loop 99;sunday;sunday;sunday;end;sunday;sunday;", 0), 0, 0, 0, 299, 0);
         livedIs(lived("loop 99;sunday;sunday;sunday;end;sunday;sunday;any;", 0), 0, 0, 0, 299, 1);
         livedIs(lived("loop 99;sunday;sunday;sunday;end;sunday;sunday;stop;", 0), 0, 0, 0, 299, 1);
