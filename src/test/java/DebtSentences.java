@@ -520,6 +520,13 @@ final class DebtSentences {
         Check.given("what WAITS for b is last", y, y.waiting(5, 1), 1);
         Check.due("c is OWED nothing", y.singer(2, 6), 0);
         Check.due("all but 2, 10 and 11", y.told(5), 1 + 3 + 4 + 5 + 6 + 7 + 8 + 9);
+        FalseNotes z = Check.valley(TextSentences.singers(8) + "owes c a 1;owes b a 2;owes d a 3;owes e a 4;owes f a 5;owes g a 6;owes h a 7;"
+                + "owes a b 8;owes d b 9;owes a c 10;owes e c 11;");
+        Check.due("8 WAIT, none of them c", z.told(4), 8);
+        z.die(2);
+        Check.due("the last of 8 is gone, the first has the NOTE", z.told(4), 6);
+        Check.given("b has it", z, z.held(0, 0, 0), 1);
+        Check.refused("nobody has c's", z, z.held(2, 0, 0), 6);
     }
 
     @Says(at = "Terms 2", words = "it is DEAD, has no coins, no COLD.")

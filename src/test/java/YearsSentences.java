@@ -267,9 +267,9 @@ final class YearsSentences {
                 + "when debt a to b>0;sunday;end;when debt c to a<7;sunday;end;");
         x.live(0);
         Check.due("at a NOTE, WAITING, none", x.lived(3), 3);
-        Check.years(x, "when debt a to a=0;sunday;end;when debt a to a>0;sunday;end;when debt a to a<0;sunday;end;");
+        Check.years(x, "when debt a to a=0;sunday;end;when debt a to a>0;stop;end;when debt a to a<0;stop;end;sunday;");
         x.live(0);
-        Check.due("one and itself: 0", x.lived(3), 1);
+        Check.due("one and itself: 0", x.lived(3), 2);
         x = three();
         DebtSentences.enrich(x, 0, 9999);
         Check.years(x, "when purse a=9999;sunday;end;when purse a<9999;sunday;end;when purse a>9998;sunday;end;");
